@@ -329,12 +329,16 @@ public final class SpecifierDesk {
         }
 
         void addNumber(int number, int leastDigits) {
+            if (number < 0) {
+                add('-');
+            }
+            int size = Math.abs(number);
             int place = 1;
-            for (int digits = 1; digits < 9 && (digits < leastDigits || number / 10 >= place); digits++) {
+            for (int digits = 1; digits < 9 && (digits < leastDigits || size / 10 >= place); digits++) {
                 place *= 10;
             }
             for (; place > 0; place /= 10) {
-                add('0' + number / place % 10);
+                add('0' + size / place % 10);
             }
         }
 
@@ -705,13 +709,6 @@ public final class SpecifierDesk {
             trim();
         }
 
-        /** Rounds half up to so many digits behind the first one that is not 0. */
-        void roundBehindFirst(int count) {
-            if (used > 0) {
-                roundTo(first() - count);
-            }
-        }
-
         private void carryInto(int start) {
             for (int i = start; i < CELLS; i++) {
                 if (i >= used) {
@@ -872,20 +869,40 @@ public final class SpecifierDesk {
         void layArgument(Argument argument) {
             start();
             char conversion = specifier.conversion;
-            if (conversion == 'b') {
-                setTruth(argument);
-            } else if (argument.kind == Kind.NOTHING) {
-                body.addWord("null");
-            } else if (conversion == 's') {
-                setText(argument);
-            } else if (conversion == 'c') {
-                body.add((int) argument.words[0]);
-            } else if (argument.isBeyondNumbers()) {
-                setBeyondNumbers(argument);
+            boolean asText = conversion == 'b' || conversion == 's';
+            if (argument.kind == Kind.NOTHING) {
+                setUnfilled(conversion == 'b' ? "false" : "null");
+            } else if (argument.isNoNumber() && !asText) {
+                setUnfilled("NaN");
+            } else if (argument.isBeyondNumbers() && !asText) {
+                setSign(argument.minus);
+                setUnfilled("Infinity");
             } else {
-                setNumber(argument);
+                switch (conversion) {
+                    case 'b':
+                        addTruth(argument.kind != Kind.TRUTH || argument.words[0] != 0);
+                        break;
+                    case 's':
+                        setText(argument);
+                        break;
+                    case 'c':
+                        body.add((int) argument.words[0]);
+                        break;
+                    case 'o':
+                        setBased(argument, 8);
+                        break;
+                    case 'x':
+                        setBased(argument, 16);
+                        break;
+                    case 'a':
+                        setHex(argument);
+                        break;
+                    default:
+                        setDecimal(argument);
+                        break;
+                }
             }
-            if (conversion == 'b' || conversion == 's') {
+            if (asText) {
                 body.cutTo(specifier.precision);
             }
             putTogether();
@@ -895,7 +912,13 @@ public final class SpecifierDesk {
             head.empty();
             body.empty();
             bracketOpen = false;
+            zeroFilled = specifier.hasAny(Specifier.ZERO);
+        }
+
+        /** A word in place of a number: the flag 0 does nothing then. */
+        private void setUnfilled(String word) {
             zeroFilled = false;
+            body.addWord(word);
         }
 
         private void putTogether() {
@@ -916,18 +939,11 @@ public final class SpecifierDesk {
             }
         }
 
-        private void setTruth(Argument argument) {
-            boolean is = argument.kind != Kind.NOTHING;
-            if (argument.kind == Kind.TRUTH) {
-                is = argument.words[0] != 0;
-            }
-            body.addWord(is ? "true" : "false");
-        }
-
         private void setText(Argument argument) {
+            digits.take(argument, 10);
             switch (argument.kind) {
                 case TRUTH:
-                    setTruth(argument);
+                    addTruth(argument.words[0] != 0);
                     break;
                 case CHARACTER:
                     body.add((int) argument.words[0]);
@@ -944,7 +960,6 @@ public final class SpecifierDesk {
                     }
                     break;
                 default:
-                    digits.take(argument, 10);
                     addMinus(argument.isBelowZero());
                     addWhole(false);
                     break;
@@ -952,20 +967,19 @@ public final class SpecifierDesk {
         }
 
         private void setDecimalText(Argument argument) {
-            digits.take(argument, 10);
             addMinus(argument.isBelowZero());
-            int scale = -argument.lowest;
-            int exponent = digits.isZero() ? -scale : digits.first();
-            if (scale >= 0 && exponent >= -6) {
+            int lowest = argument.lowest;
+            int first = digits.isZero() ? lowest : digits.first();
+            if (lowest <= 0 && first >= -6) {
                 addWhole(false);
-                addBehindPoint(-1, -scale, false);
+                addBehindPoint(-1, lowest, false);
                 return;
             }
-            body.add(letterOf(digits.at(exponent)));
-            addBehindPoint(exponent - 1, argument.lowest, false);
-            if (exponent != 0) {
-                body.add('E');
-                addExponent(exponent, 1);
+            body.add(letterOf(digits.at(first)));
+            addBehindPoint(first - 1, lowest, false);
+            if (first != 0) {
+                body.addWord(first > 0 ? "E+" : "E");
+                body.addNumber(first, 1);
             }
         }
 
@@ -979,7 +993,6 @@ public final class SpecifierDesk {
                 body.addWord("Infinity");
                 return;
             }
-            digits.take(argument, 10);
             int first = digits.first();
             int last = digits.lastNotZero();
             if (first >= -3 && first <= 6) {
@@ -990,35 +1003,7 @@ public final class SpecifierDesk {
             body.add(letterOf(digits.at(first)));
             addBehindPoint(first - 1, Math.min(first - 1, last), false);
             body.add('E');
-            addMinus(first < 0);
-            body.addNumber(Math.abs(first), 1);
-        }
-
-        private void setBeyondNumbers(Argument argument) {
-            if (argument.isNoNumber()) {
-                body.addWord("NaN");
-                return;
-            }
-            setSign(argument.minus);
-            body.addWord("Infinity");
-        }
-
-        private void setNumber(Argument argument) {
-            zeroFilled = specifier.hasAny(Specifier.ZERO);
-            switch (specifier.conversion) {
-                case 'o':
-                    setBased(argument, 8);
-                    break;
-                case 'x':
-                    setBased(argument, 16);
-                    break;
-                case 'a':
-                    setHex(argument);
-                    break;
-                default:
-                    setDecimal(argument);
-                    break;
-            }
+            body.addNumber(first, 1);
         }
 
         /** d, e, f and g. */
@@ -1033,7 +1018,7 @@ public final class SpecifierDesk {
             boolean fixed = specifier.conversion == 'f';
             if (specifier.conversion == 'g') {
                 precision = Math.max(1, precision) - 1;
-                digits.roundBehindFirst(precision);
+                digits.roundTo(digits.first() - precision);
                 fixed = digits.first() >= -4 && digits.first() <= precision;
                 precision -= fixed ? digits.first() : 0;
             }
@@ -1075,12 +1060,12 @@ public final class SpecifierDesk {
         }
 
         private void setScientific(int precision) {
-            digits.roundBehindFirst(precision);
-            int exponent = digits.first();
-            body.add(letterOf(digits.at(exponent)));
-            addBehindPoint(exponent - 1, exponent - precision, specifier.hasAny(Specifier.SHARP));
-            body.add('e');
-            addExponent(exponent, 2);
+            digits.roundTo(digits.first() - precision);
+            int first = digits.first();
+            body.add(letterOf(digits.at(first)));
+            addBehindPoint(first - 1, first - precision, specifier.hasAny(Specifier.SHARP));
+            body.addWord(first < 0 ? "e" : "e+");
+            body.addNumber(first, 2);
         }
 
         private void setHex(Argument argument) {
@@ -1100,8 +1085,7 @@ public final class SpecifierDesk {
                 body.add(letterOf(hex.at(k)));
             }
             body.add('p');
-            addMinus(hex.exponent < 0);
-            body.addNumber(Math.abs(hex.exponent), 1);
+            body.addNumber(hex.exponent, 1);
         }
 
         private void addMinus(boolean below) {
@@ -1110,9 +1094,8 @@ public final class SpecifierDesk {
             }
         }
 
-        private void addExponent(int exponent, int leastDigits) {
-            body.add(exponent < 0 ? '-' : '+');
-            body.addNumber(Math.abs(exponent), leastDigits);
+        private void addTruth(boolean is) {
+            body.addWord(is ? "true" : "false");
         }
 
         private void addWhole(boolean grouped) {
