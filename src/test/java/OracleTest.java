@@ -93,7 +93,8 @@ public final class OracleTest {
             }
         }
         if (heavy || random.nextInt(3) != 0) {
-            s.append(heavy ? 300 + random.nextInt(700) : 1 + random.nextInt(random.nextInt(4) == 0 ? 200 : 20));
+            int width = heavy ? 300 + random.nextInt(700) : 1 + random.nextInt(random.nextInt(4) == 0 ? 200 : 20);
+            s.append(random.nextInt(150) == 0 ? 998 + random.nextInt(4) : width);
         }
         boolean precise = "bsefgaBSEGA".indexOf(conversion) >= 0;
         if (random.nextInt(2) == 0 && (precise || random.nextInt(20) == 0)) {
