@@ -10,6 +10,7 @@ public final class LayOutTest {
         readingFaults();
         layingOutFaults();
         theStateBehindFaults();
+        oneObjectAgain();
         indexes();
         nothingAndTruth();
         textsAndCharacters();
@@ -167,6 +168,42 @@ public final class LayOutTest {
         CHECKS.due("laid out again", Checks.resultOf(desk), "a5");
     }
 
+    /** Nothing of an earlier layOut or of a cleared argument may shine through. */
+    private static void oneObjectAgain() {
+        SpecifierDesk desk = text("x");
+        due("%s", desk, "'x'");
+        desk.clear();
+        desk.truth(true);
+        due("%<s", desk, "10");
+        for (String[] faulty : new String[][] {{"%5", "1"}, {"%.f", "1"}, {"%1000s", "2"}, {"%--5s", "3"}, {"%y", "4"}, {"%5n", "5"}, {"%S%y", "4"}}) {
+            desk.clear();
+            due(faulty[0], desk, faulty[1]);
+            desk.clear();
+            desk.truth(true);
+            due("%s", desk, "'true'");
+        }
+        desk.clear();
+        due("%999%%999%%999%%999%%5%", desk, "14");
+        desk.clear();
+        due("%%", desk, "'%'");
+        desk.clear();
+        desk.fraction(-1L, 5, 300);
+        desk.size(true, 5);
+        desk.scale(3);
+        desk.clear();
+        desk.whole(7, 8);
+        desk.size(false, 7);
+        due("%d %1$s %1$x %2$d %2$s %2$x", desk, "'7 7 7 7 7 7'");
+        desk.clear();
+        for (int i = 0; i < 8; i++) {
+            CHECKS.due("a great size", i == 0 ? desk.size(false, -1) : desk.more(-1), 1);
+        }
+        desk.size(false, 999999999);
+        desk.scale(9);
+        desk.whole(8, 8);
+        due("%x %2$.1f %3$o %1$x %2$.0e %3$x", desk, "'F 1.0 10 F 1e+00 8'".replace("F", "f".repeat(128)));
+    }
+
     private static void indexes() {
         SpecifierDesk desk = new SpecifierDesk();
         for (int i = 1; i <= 12; i++) {
@@ -197,6 +234,7 @@ public final class LayOutTest {
 
     private static void textsAndCharacters() {
         due("%s|%1$S|%1$5s|%1$-5s|%1$.1s|%1$4.2S|%1$.9s", text("aZ{"), "'aZ{|AZ{|  aZ{|aZ{  |a|  AZ|aZ{'");
+        due("%S", text("abyz`{@AZ[ 09~"), "'ABYZ`{@AZ[ 09~'");
         SpecifierDesk desk = new SpecifierDesk();
         desk.character('q');
         due("%c|%1$C|%1$3c|%1$-3C|%1$s|%1$S|%1$.0s|", desk, "'q|Q|  q|Q  |q|Q||'");
