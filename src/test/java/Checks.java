@@ -1,11 +1,33 @@
+import java.util.function.Supplier;
+
 /** Counts what is not as due, and helps to speak with a desk in texts. */
 final class Checks {
     private int wrong;
+    private String sentence = "";
+
+    /** The sentence of the document that what follows is about. */
+    void sentence(String words) {
+        sentence = words + ": ";
+    }
 
     void due(String what, Object got, Object want) {
         if (!got.equals(want)) {
             wrong++;
-            System.out.println(what + " answered <" + got + ">, due is <" + want + ">");
+            System.out.println(sentence + what + " answered <" + got + ">, due is <" + want + ">");
+        }
+    }
+
+    /** Each format, on a desk of its own, gives the text behind it. */
+    void lays(Supplier<SpecifierDesk> desk, String... formatsAndTexts) {
+        for (int i = 0; i + 1 < formatsAndTexts.length; i += 2) {
+            due(formatsAndTexts[i], laidOut(desk.get(), formatsAndTexts[i]), "'" + formatsAndTexts[i + 1] + "'");
+        }
+    }
+
+    /** Each format, on a desk of its own, has the fault. */
+    void faulty(Supplier<SpecifierDesk> desk, int fault, String... formats) {
+        for (String format : formats) {
+            due(format, laidOut(desk.get(), format), String.valueOf(fault));
         }
     }
 
@@ -32,6 +54,7 @@ final class Checks {
         return eight;
     }
 
+    /** A long result takes more calls than the document's 512; the class itself does not count them. */
     static String resultOf(SpecifierDesk desk) {
         StringBuilder result = new StringBuilder();
         for (int k = 0; k < desk.length(); k++) {
