@@ -233,6 +233,13 @@ public final class BoundaryNumbersTest {
             lays(() -> Desks.decimal(true, low, 1), "%.0f", "-" + even, "%.0e", "-" + even + "e+00", "%.1g", "-" + even);
             lays(() -> Desks.fraction(MINUS, high, -1), "%.0f", "-" + odd, "%.0e", "-" + odd + "e+00", "%.1g", "-" + odd);
         }
+        for (int digit = 1; digit <= 8; digit++) {
+            // Each last digit grows by one; a 9 is written as 0, and the one before it grows.
+            String next = String.valueOf(digit + 1);
+            bothLay(10 * digit + 5, 1, "%.0f", next, "%.0e", next + "e+00", "%.1g", next);
+            bothLay(100 * digit + 95, 2, "%.1f", next + ".0", "%.1e", next + ".0e+00", "%.2g", next + ".0");
+        }
+        bothLay(95, 1, "%.0f", "10", "%.0e", "1e+01", "%.1g", "1e+01");
         bothLay(249999999999999L, 14, "%.0f", "2", "%.0e", "2e+00", "%.1g", "2");
         bothLay(250000000000001L, 14, "%.0f", "3", "%.0e", "3e+00", "%.1g", "3");
     }
